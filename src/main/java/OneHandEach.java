@@ -421,7 +421,7 @@ public final class OneHandEach {
             case 1:
                 return guns.count;
             case 2:
-                return law.fed;
+                return law.bytesOnTape();
             case 3:
                 return changes.done;
             case 4:
@@ -944,24 +944,41 @@ public final class OneHandEach {
         }
     }
 
-    /** Reads a text into a program, or finds the first byte with which no text goes on. */
+    /** The tape: reads its text into a program, or finds the first byte with which no text goes on. */
     private static final class Reader {
-        private static final int MOST_OPEN = 6, MOST_DIGITS = 4;
+        private static final int LONGEST = 120, MOST_OPEN = 6, MOST_DIGITS = 4;
 
-        private int[] text;
+        private final int[] tape;
         private int length;
         private int at;
         private int fault;
-        private Program into;
+        Program into;
 
-        /** The fault, or -1. */
-        int read(int[] bytes, int howMany, Program program) {
-            text = bytes;
-            length = Math.min(howMany, bytes.length);
+        Reader() {
+            tape = new int[LONGEST];
+            into = new Program();
+        }
+
+        int takeByte(int letter) {
+            if (length >= LONGEST) {
+                return FULL;
+            }
+            tape[length] = letter;
+            length++;
+            return length;
+        }
+
+        /** Reads the tape and empties it: the fault, or -1. */
+        int read() {
             at = 0;
             fault = -1;
-            into = program;
             into.length = 0;
+            lines();
+            length = 0;
+            return fault;
+        }
+
+        private void lines() {
             line();
             for (int i = 0; i < length && takes(';'); i++) {
                 line();
@@ -969,11 +986,10 @@ public final class OneHandEach {
             if (fault < 0 && at < length) {
                 fault = at;
             }
-            return fault;
         }
 
         private int here() {
-            return fault < 0 && at < length ? text[at] : -1;
+            return fault < 0 && at < length ? tape[at] : -1;
         }
 
         private boolean takes(int letter) {
@@ -1076,43 +1092,36 @@ public final class OneHandEach {
         }
     }
 
-    /** The tape, and the law by which times are weighed. */
+    /** The law by which times are weighed. */
     private static final class Law {
-        private static final int LONGEST = 120, GREATEST_WEIGHT = 99;
+        private static final int GREATEST_WEIGHT = 99;
 
-        private final int[] tape;
         private final int[] stack;
         private final Reader reader;
-        // Two, so that a text with a fault leaves the law as it was.
         private Program valid;
-        private Program spare;
         private boolean there;
-        int fed;
 
         Law() {
-            tape = new int[LONGEST];
             stack = new int[Program.MOST];
             reader = new Reader();
             valid = new Program();
-            spare = new Program();
         }
 
         int takeByte(int letter) {
-            if (fed >= LONGEST) {
-                return FULL;
-            }
-            tape[fed] = letter;
-            fed++;
-            return fed;
+            return reader.takeByte(letter);
+        }
+
+        int bytesOnTape() {
+            return reader.length;
         }
 
         /** Makes the tape the law, if it has no fault, and empties it: the fault, or -1. */
         int readTape() {
-            int fault = reader.read(tape, fed, spare);
-            fed = 0;
+            int fault = reader.read();
             if (fault < 0) {
-                Program read = spare;
-                spare = valid;
+                // The two change places, so that a text with a fault leaves the law as it was.
+                Program read = reader.into;
+                reader.into = valid;
                 valid = read;
                 there = true;
             }

@@ -275,6 +275,10 @@ public final class PromisesTest {
         due("to above 99", 0, x.sights(4, 0, 1));
         lay(4, 0, 0, 0, -1, 0);
         due("from below 0", 0, x.sights(4, 0, 1));
+        lay(4, 0, 0, 0, 0, 0, 1, 59, 99, 99);
+        due("to the row's very end", 2, x.sights(4, 0, 3));
+        x.forget();
+        x.forget();
         x.row(5, 0, 60);
         due("till full", 3, x.sights(5, 0, 8));
         due("full", 0, x.sights(5, 0, 8));
@@ -338,6 +342,8 @@ public final class PromisesTest {
         due("all", 1, x.chance(719, 0));
         due("all", 1, x.chance(719, 1));
         x.sight(110, 0);
+        due("the first minute", 1, new OneHandEach().chance(0, 0));
+        due("the first minute", 720, new OneHandEach().chance(0, 1));
         due("none there", 0, x.chance(11069, 0));
         due("none there", 1, x.chance(11069, 1));
         law("h");
@@ -347,6 +353,9 @@ public final class PromisesTest {
         law("0");
         due("no weight at all", 0, x.chance(719, 0));
         due("no weight at all", 1, x.chance(719, 1));
+        law("t=130");
+        due("a weight of 1 in all", 1, x.chance(130130, 0));
+        due("a weight of 1 in all", 1, x.chance(130130, 1));
         int[] wrong = {-1, 720, 1000, 5004, 719720, 720720, Integer.MAX_VALUE, Integer.MIN_VALUE};
         for (int ab : wrong) {
             due("chance " + ab, BAD, x.chance(ab, 0));
@@ -418,8 +427,12 @@ public final class PromisesTest {
         x.mend(0, 3, 0);
         x.mend(0, 4, 0);
         due("no walk: each knows the minute", 20, x.lot(-5, 20, 0));
-        due("or is it one of none", 20, x.lot(-5, 20, 1));
-        due("nothing changes", 20, x.lot(-5, 20, 1));
+        due("each is one time", 20, x.lot(-5, 20, 1));
+        due("one walker", 1, x.lot(7, 1, 0));
+        x.mend(0, 2, 1);
+        due("near ones are more", 0, x.lot(7, 1, 1));
+        due("three near minutes, of fourteen and more by the hour hand", 3, x.lot(7, 1, 0));
+        x.mend(0, 2, 0);
         x.sight(0, 0);
         due("no other sights", 20, x.lot(-5, 20, 0));
         due("no sight is kept", 1, x.count(0));
@@ -473,6 +486,10 @@ public final class PromisesTest {
         for (int what = 1; what < 7; what++) {
             due("none", NOT, x.guess(1, what));
         }
+        x = new OneHandEach();
+        x.gun(100, 40);
+        due("far behind", 19, x.guess(1, 0));
+        due("greatest off", -20, x.guess(1, 4));
         due("no clock", VOID, x.guess(2, 0));
         due("no clock", VOID, x.guess(-1, 0));
         due("no what", VOID, x.guess(0, 7));
@@ -496,6 +513,11 @@ public final class PromisesTest {
         x.gun(0, 30);
         due("no guess for it", 64, x.liars(0));
         due("the guns stay", 7, x.count(1));
+        x = new OneHandEach();
+        x.gun(100, 30);
+        due("by the least and the greatest off", 0, x.liars(1));
+        x.gun(100, 31);
+        due("31 is off -29, so either lies: the least", 1, x.liars(1));
     }
 
     private static void agree() {
@@ -520,6 +542,8 @@ public final class PromisesTest {
         due("at once", 5, x.meet(5, 0, 0));
         due("the next hour", 60, x.meet(5, 0, 1));
         due("apart", 55, x.meet(5, 0, 2));
+        due("minute 0", 0, x.meet(0, 0, 0));
+        due("minute 0", 0, x.meet(0, 0, 1));
         due("p", 360, x.meet(5, 3000, 0));
         due("q", 30, x.meet(5, 30, 1));
         due("half a day on", 720, x.meet(12, 0, 0));
@@ -542,6 +566,9 @@ public final class PromisesTest {
         due("backward, too", 99, x.round(1, 0));
         due("backward, too", 699, x.round(1, 6));
         due("never out by more", 720, x.round(1, 7));
+        x.mend(0, 1, 5);
+        due("720 * 5 / 100 is 36", 719, x.round(0, 35));
+        due("720 * 5 / 100 is 36", 720, x.round(0, 36));
         due("no clock", BAD, x.round(2, 0));
         due("no clock", BAD, x.round(-1, 0));
         due("no x", BAD, x.round(0, -1));
