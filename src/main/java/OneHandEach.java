@@ -440,7 +440,7 @@ public final class OneHandEach {
     }
 
     private static boolean isClock(int clock) {
-        return isOneOf(clock, 2);
+        return clock == 0 || clock == 1;
     }
 
     private static boolean isMinute(int minute) {
@@ -946,7 +946,7 @@ public final class OneHandEach {
 
     /** The tape: reads its text into a program, or finds the first byte with which no text goes on. */
     private static final class Reader {
-        private static final int LONGEST = 120, MOST_OPEN = 6, MOST_DIGITS = 4;
+        private static final int LONGEST = 120, MOST_OPEN = 6, MOST_DIGITS = 4, RANKS = 5, COMPARING = 2;
 
         private final int[] tape;
         private int length;
@@ -973,12 +973,6 @@ public final class OneHandEach {
             at = 0;
             fault = -1;
             into.length = 0;
-            lines();
-            length = 0;
-            return fault;
-        }
-
-        private void lines() {
             line();
             for (int i = 0; i < length && takes(';'); i++) {
                 line();
@@ -986,6 +980,8 @@ public final class OneHandEach {
             if (fault < 0 && at < length) {
                 fault = at;
             }
+            length = 0;
+            return fault;
         }
 
         private int here() {
@@ -1001,57 +997,51 @@ public final class OneHandEach {
         }
 
         private void line() {
-            any(0);
+            joined(0, 0);
             if (takes('?')) {
                 into.add('?', 0);
-                any(0);
+                joined(0, 0);
             }
             into.add(';', 0);
         }
 
-        private void any(int open) {
-            all(open);
-            for (int i = 0; i < length && takes('|'); i++) {
-                all(open);
-                into.add('|', 0);
-            }
-        }
-
-        private void all(int open) {
-            compared(open);
-            for (int i = 0; i < length && takes('&'); i++) {
-                compared(open);
-                into.add('&', 0);
-            }
-        }
-
-        private void compared(int open) {
-            sum(open);
-            int letter = here();
-            if (letter == '<' || letter == '=' || letter == '>') {
-                at++;
-                sum(open);
-                into.add(letter, 0);
-            }
-        }
-
-        private void sum(int open) {
-            product(open);
-            for (int i = 0; i < length && (here() == '+' || here() == '-'); i++) {
-                int letter = here();
-                at++;
-                product(open);
-                into.add(letter, 0);
-            }
-        }
-
-        private void product(int open) {
-            operand(open);
-            for (int i = 0; i < length && (here() == '*' || here() == '/' || here() == '%'); i++) {
-                int letter = here();
-                at++;
+        /** What is joined by signs of a rank: operands of the next, tighter one. */
+        private void joined(int rank, int open) {
+            if (rank >= RANKS) {
                 operand(open);
-                into.add(letter, 0);
+                return;
+            }
+            joined(rank + 1, open);
+            for (int i = 0; i < length && rankOf(here()) == rank; i++) {
+                if (rank == COMPARING && i > 0) {
+                    return;
+                }
+                int sign = here();
+                at++;
+                joined(rank + 1, open);
+                into.add(sign, 0);
+            }
+        }
+
+        private static int rankOf(int sign) {
+            switch (sign) {
+                case '|':
+                    return 0;
+                case '&':
+                    return 1;
+                case '<':
+                case '=':
+                case '>':
+                    return COMPARING;
+                case '+':
+                case '-':
+                    return 3;
+                case '*':
+                case '/':
+                case '%':
+                    return 4;
+                default:
+                    return -1;
             }
         }
 
@@ -1065,7 +1055,7 @@ public final class OneHandEach {
                 into.add(letter, 0);
             } else if (letter == '(' && open < MOST_OPEN) {
                 at++;
-                any(open + 1);
+                joined(0, open + 1);
                 close();
             } else if ((letter == '!' || letter == '-') && open < MOST_OPEN) {
                 at++;
@@ -1185,7 +1175,7 @@ public final class OneHandEach {
         private int workOut(int step, int top) {
             if (top > 0 && (step == '!' || step == Program.NEGATED)) {
                 int value = stack[top - 1];
-                stack[top - 1] = step == '!' ? oneIf(value == 0) : -value;
+                stack[top - 1] = step != '!' ? -value : value == 0 ? 1 : 0;
                 return top;
             }
             if (top < 2) {
@@ -1198,15 +1188,15 @@ public final class OneHandEach {
         private static int joined(int step, int left, int right) {
             switch (step) {
                 case '|':
-                    return oneIf(left != 0 || right != 0);
+                    return left != 0 || right != 0 ? 1 : 0;
                 case '&':
-                    return oneIf(left != 0 && right != 0);
+                    return left != 0 && right != 0 ? 1 : 0;
                 case '<':
-                    return oneIf(left < right);
+                    return left < right ? 1 : 0;
                 case '=':
-                    return oneIf(left == right);
+                    return left == right ? 1 : 0;
                 case '>':
-                    return oneIf(left > right);
+                    return left > right ? 1 : 0;
                 case '+':
                     return left + right;
                 case '-':
@@ -1218,10 +1208,6 @@ public final class OneHandEach {
                 default:
                     return right == 0 ? 0 : left % right;
             }
-        }
-
-        private static int oneIf(boolean so) {
-            return so ? 1 : 0;
         }
     }
 
