@@ -861,7 +861,11 @@ public final class OneHandEach {
             became = new int[MOST];
         }
 
+        /** An amount that stays what it was is no change: nothing is kept, and what was undone can be done again. */
         void add(int place, int before, int after) {
+            if (before == after) {
+                return;
+            }
             if (done >= MOST) {
                 dropEldest();
             }

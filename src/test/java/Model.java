@@ -41,6 +41,7 @@ final class Model {
         int[] least = {-360, -9, 0, 0, town[1]}, most = {359, 9, 9, town[2], 99};
         if (v < least[what] || v > most[what]) return VOID;
         int was = row[index(number, what)];
+        if (v == was) return was;
         row[index(number, what)] = v;
         done.add(new int[] {number, what, was, v});
         if (done.size() > 40) done.remove(0);

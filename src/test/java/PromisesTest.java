@@ -84,8 +84,13 @@ public final class PromisesTest {
         }
         due("what was refused changed nothing", 10, x.count(3));
         due("off", 359, x.of(1, 0));
-        due("the same again is a change, too", 359, x.mend(1, 0, 359));
-        due("changes", 11, x.count(3));
+        int[][] same = {{1, 0, 359}, {0, 0, 0}, {0, 1, -9}, {1, 1, 0}, {0, 2, 9}, {0, 3, 0}, {0, 4, 0}};
+        for (int[] s : same) {
+            due("the same again", s[2], x.mend(s[0], s[1], s[2]));
+            due("is as it was", s[2], x.of(s[0], s[1]));
+            due("is no change", 10, x.count(3));
+        }
+        due("the same again, and refused", VOID, x.mend(2, 0, 0));
     }
 
     private static void of() {
@@ -722,6 +727,36 @@ public final class PromisesTest {
             due("off", i + 5, x.of(0, 0));
         }
         due("none", STATE, x.undo());
+        sameIsNotUndone();
+    }
+
+    private static void sameIsNotUndone() {
+        x = new OneHandEach();
+        x.mend(0, 2, 0);
+        due("the same alone is no change", STATE, x.undo());
+        x.mend(0, 1, 3);
+        x.mend(0, 2, 0);
+        x.mend(0, 1, 3);
+        due("the change ahead of the same", 0, x.undo());
+        due("gain", 0, x.of(0, 1));
+        for (int i = 1; i <= 40; i++) {
+            x.mend(0, 0, i);
+        }
+        for (int i = 0; i < 5; i++) {
+            x.mend(0, 0, 40);
+        }
+        due("the same pushes none of the forty out", 40, x.count(3));
+        for (int i = 39; i >= 0; i--) {
+            due("undone", i, x.undo());
+        }
+        due("off as ahead of all", 0, x.of(0, 0));
+        x.mend(0, 0, 5);
+        x.mend(1, 0, 9);
+        x.set(0, 0);
+        due("the same as SET made it", 9, x.mend(0, 0, 9));
+        due("is no change", 2, x.count(3));
+        due("what SET made another is one", 9, x.mend(0, 0, 5));
+        due("changes", 3, x.count(3));
     }
 
     private static void redo() {
@@ -743,6 +778,12 @@ public final class PromisesTest {
         due("err", 7, x.of(0, 2));
         due("none", STATE, x.redo());
         x.undo();
+        x.undo();
+        x.mend(0, 2, 0);
+        x.mend(1, 1, 0);
+        x.mend(1, 0, 0);
+        due("the same is no other that came behind", 1, x.redo());
+        due("gain", 6, x.of(1, 1));
         x.undo();
         x.mend(0, 2, 1);
         due("another came behind", STATE, x.redo());
@@ -967,7 +1008,10 @@ public final class PromisesTest {
         x.feed(1);
         x.feed(1);
         x.feed(1);
-        for (int i = 0; i < 4; i++) {
+        x.mend(0, 0, 0);
+        due("no change yet", 0, x.count(3));
+        for (int i = 1; i <= 4; i++) {
+            x.mend(0, 0, i);
             x.mend(0, 0, i);
         }
         for (int i = 0; i < 5; i++) {
