@@ -255,6 +255,16 @@ public final class ClocksBoundsTest {
         due("sixty lines", 1, Steps.law(new OneHandEach(), "1" + ";1".repeat(59) + "1"));
     }
 
+    /** Of the texts these ask for the most steps: each byte is one, and each end of a line. */
+    private static void longest() {
+        weighs("-t" + "+1".repeat(59), 9, 50);
+        weighs("!t" + "+1".repeat(59), 0, 60);
+        weighs("0" + "?0;0".repeat(29) + "?7", 5, 0);
+        weighs("0" + "?0;0".repeat(29) + "+7", 5, 7);
+        weighs("!".repeat(6) + "t" + "*!!!!!!t".repeat(14), 5, 1);
+        weighs("((((((t))))))" + "+((((((t))))))".repeat(7), 5, 40);
+    }
+
     private static void tooEarly() {
         String[] early = {"!", "-", "(", "t+", "t<", "t&", "t|", "t;", "t?", "t?t;", "(t", "((t)", "!!!!!!", "((((((t)))))",
             "t<t+", "12*", "t?(t"};
@@ -337,6 +347,7 @@ public final class ClocksBoundsTest {
         cutsAndTruths();
         ranks();
         firstLine();
+        longest();
     }
 
     /** What a text gives is asked by itself and by whether it is just that, as weights are held within 0 .. 99. */

@@ -191,6 +191,10 @@ public final class GunsBoundsTest {
         guns(0, 100, 1, 100, 2, 100, 3, 0, 30, 0, 0);
         due("bits of the guns' numbers", 8, x.liars(0));
         due("of like ones the least", 3, x.liars(1));
+        guns(0, 100, 5, 100, 5, 100, 7);
+        due("the fewest, not the least bits", 4, x.liars(1));
+        guns(0, 100, 7, 100, 7, 100, 5);
+        due("the fewest, not the least bits", 4, x.liars(1));
         guns(0, 100, 5, 100, 7, 100, 7, 100, 5);
         due("two and two: the least bits", 6, x.liars(1));
         x.mend(0, 2, 1);

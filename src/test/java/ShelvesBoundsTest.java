@@ -427,5 +427,27 @@ public final class ShelvesBoundsTest {
         due("one sight less", 7, x.count(0));
         x.redo();
         due("and again", 40, x.count(3));
+        lastCall();
+    }
+
+    /** An object is used for 512 calls: the last of them is answered, too. */
+    private static void lastCall() {
+        x = new OneHandEach();
+        for (int i = 0; i < 120; i++) {
+            x.feed('1');
+        }
+        for (int i = 0; i < 50; i++) {
+            x.body(7);
+        }
+        for (int i = 0; i < 341; i++) {
+            x.set(1, i);
+        }
+        due("call 512", 341, x.led(1, 0));
+        x = new OneHandEach();
+        for (int i = 0; i < 510; i++) {
+            x.mend(0, 0, i % 2 + 1);
+        }
+        due("call 511", 40, x.count(3));
+        due("call 512", 39, x.undo());
     }
 }

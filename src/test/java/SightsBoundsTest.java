@@ -389,6 +389,23 @@ public final class SightsBoundsTest {
         due("one time fits", 1, x.fits(-1));
         due("of like ones CLOCK 0", 0, x.next(50, 0));
         due("how many", 1, x.next(50, 1));
+        x = new OneHandEach();
+        x.sight(0, 0);
+        x.sight(100, 0);
+        due("the first time alone", 0, x.fits(0));
+        due("how many", 1, x.next(0, 1));
+        // By GAIN -9 the other hand shows the same at minutes 244 and 245, of those from 240 to 251.
+        x = new OneHandEach();
+        x.mend(1, 1, -9);
+        x.sight(20, 0);
+        due("by the other hand", 1, x.next(0, 0));
+        due("two of a part", 2, x.next(0, 1));
+        x = new OneHandEach();
+        x.sight(100, 5);
+        for (int off = 0; off < 7; off++) {
+            x.mend(0, 0, off);
+            due("by an OFF as by minutes", most[off], x.next(0, 1));
+        }
     }
 
     // ---- promise 16
