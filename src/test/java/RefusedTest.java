@@ -35,7 +35,7 @@ public final class RefusedTest {
         refused("mend", VOID, x -> x.mend(0, 0, 360));
         refused("mend to what it was", 0, x -> x.mend(1, 0, 0));
         actsAndLaws();
-        Due.that("some hundred calls", calls > 250);
+        Due.that("some hundred calls", calls > 500);
         Due.end();
     }
 
